@@ -672,7 +672,6 @@ public final class ShutterTown {
 
         Shutters(Houses houses) {
             this.houses = houses;
-            Arrays.fill(dues, NONE);
         }
 
         void begin(Letters text) {

@@ -213,12 +213,13 @@ public final class ActsTest {
         Check.due("the first two are forgotten", x.window(0, 3), 0);
         Check.due("none is left", x.undo(), -3);
         ShutterTown odd = Check.town(FOUR);
-        for (int act = 0; act < 15; act++) {
+        for (int act = 0; act < 20; act++) {
             odd.hour();
         }
-        for (int act = 0; act < 14; act++) {
-            odd.undo();
+        for (int act = 19; act >= 6; act--) {
+            Check.due("an hour undone", odd.undo(), act - 6);
+            Check.due("it is undone", odd.count(3), act);
         }
-        Check.due("the hour of the first act stays", odd.count(3), 1);
+        Check.due("the first six are forgotten", odd.undo(), -3);
     }
 }

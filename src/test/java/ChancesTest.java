@@ -55,6 +55,7 @@ public final class ChancesTest {
         Check.due("they do not meet", x.cross(0, 5), -9);
         ShutterTown one = Check.town("S01232W50000W41101W61103W70200W30200W51300");
         Check.due("one way alone", one.cross(0, 5), 1);
+        Check.due("window 0 between", Check.town("S01231W00000W01010W11010").cross(1, 2), 1);
     }
 
     private static void restsOf(String text, int many, int first) {
@@ -104,6 +105,7 @@ public final class ChancesTest {
         slamsOf(five, 0, 1, 5, 31, 32);
         slamsOf(five, 0, 0, 9, 40951, 100000);
         slamsOf(five, 0, 3, 9, 0, 1);
+        slamsOf(Check.town("S01231W00002W01000"), 1, 1, 3, 3, 10);
         ShutterTown right = Check.town("S01231W00000W01032");
         slamsOf(right, 0, 3, 3, 7, 10);
         slamsOf(right, 0, 2, 3, 3, 10);

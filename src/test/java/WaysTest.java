@@ -34,6 +34,9 @@ public final class WaysTest {
         soonestOf("000000", 0, 5, 2, 1236);
         soonestOf("000000", 5, 0, 2, 6321);
         soonestOf("000300", 0, 4, 3, 12365);
+        soonestOf("000000", 1, 3, 1, 214);
+        soonestOf("001000", 1, 3, 0, 234);
+        soonestOf("003000", 1, 5, 3, 21456);
         soonestOf("222222", 0, 4, 1, 145);
         soonestOf("011001", 0, 4, 0, 12365);
         soonestOf("011101", 0, 4, 0, 145);
@@ -75,6 +78,8 @@ public final class WaysTest {
         Check.due("knows(0, 1)", plain.knows(0, 1), 31);
         Check.due("knows(0, 2)", plain.knows(0, 2), 63);
         Check.due("knows(0, 9)", plain.knows(0, 9), 63);
+        Check.due("knows(5, 0)", plain.knows(5, 0), 52);
+        Check.due("knows(1, 1) by way of 0", Check.town(ring("003000")).knows(1, 1), 15);
         Check.due("knows(0, 10)", plain.knows(0, 10), -2);
         Check.due("knows(0, -1)", plain.knows(0, -1), -2);
         Check.due("knows(6, 0)", plain.knows(6, 0), -1);
