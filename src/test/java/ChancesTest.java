@@ -1,11 +1,5 @@
 /** Promises 22 to 26: cross, rests, slams, seed, afternoons. */
 public final class ChancesTest {
-    /** Each sees the one before and the one behind; the kinds of 0 to 5 are put in. */
-    private static String line(String kinds) {
-        return "S01231W0000" + kinds.charAt(0) + "W1100" + kinds.charAt(1) + "W2000" + kinds.charAt(2)
-            + "W3100" + kinds.charAt(3) + "W4000" + kinds.charAt(4) + "W5100" + kinds.charAt(5);
-    }
-
     public static void main(String[] args) {
         crossing();
         crossingByUnlikeWays();
@@ -18,7 +12,7 @@ public final class ChancesTest {
     }
 
     private static void crossOf(String kinds, int one, int other, int want) {
-        ShutterTown x = Check.town(line(kinds));
+        ShutterTown x = Check.town(Towns.line(kinds));
         Check.due(kinds + ": cross(" + one + ", " + other + ")", x.cross(one, other), want);
         Check.due(kinds + ": cross(" + other + ", " + one + ")", x.cross(other, one), want);
     }
@@ -39,7 +33,7 @@ public final class ChancesTest {
         crossOf("001100", 0, 5, 1);
         crossOf("003000", 0, 4, -9);
         crossOf("300030", 0, 4, 2);
-        ShutterTown x = Check.town(line("000000"));
+        ShutterTown x = Check.town(Towns.line("000000"));
         Check.due("cross(6, 0)", x.cross(6, 0), -1);
         Check.due("cross(0, 6)", x.cross(0, 6), -1);
         Check.due("cross(-1, -1)", x.cross(-1, -1), -1);

@@ -1,11 +1,5 @@
 /** Promises 12 to 16: soonest, knows, toTell, cut, judge. */
 public final class WaysTest {
-    /** Pairs that see each other: 0-1, 0-3, 1-2, 2-3, 2-5, 3-4, 4-5. The kinds of 0 to 5 are put in. */
-    private static String ring(String kinds) {
-        return "S01231W0000" + kinds.charAt(0) + "W0101" + kinds.charAt(1) + "W1002" + kinds.charAt(2)
-            + "W1103" + kinds.charAt(3) + "W2002" + kinds.charAt(4) + "W2101" + kinds.charAt(5);
-    }
-
     public static void main(String[] args) {
         soonestWays();
         refusalsOfTwo();
@@ -19,7 +13,7 @@ public final class WaysTest {
     }
 
     private static void soonestOf(String kinds, int from, int to, int hours, int way) {
-        ShutterTown x = Check.town(ring(kinds));
+        ShutterTown x = Check.town(Towns.ring(kinds));
         String call = kinds + ": soonest(" + from + ", " + to + ", ";
         Check.due(call + "false)", x.soonest(from, to, false), hours);
         Check.due(call + "true)", x.soonest(from, to, true), way);
@@ -60,7 +54,7 @@ public final class WaysTest {
     }
 
     private static void refusalsOfTwo() {
-        ShutterTown x = Check.town(ring("000000"));
+        ShutterTown x = Check.town(Towns.ring("000000"));
         int[][] unknown = {{-1, 0}, {0, -1}, {6, 0}, {0, 6}, {6, 6}, {Integer.MIN_VALUE, Integer.MAX_VALUE}};
         for (int[] two : unknown) {
             Check.due("soonest unknown, way", x.soonest(two[0], two[1], true), -1);
@@ -73,27 +67,27 @@ public final class WaysTest {
     }
 
     private static void knowing() {
-        ShutterTown plain = Check.town(ring("000000"));
+        ShutterTown plain = Check.town(Towns.ring("000000"));
         Check.due("knows(0, 0)", plain.knows(0, 0), 11);
         Check.due("knows(0, 1)", plain.knows(0, 1), 31);
         Check.due("knows(0, 2)", plain.knows(0, 2), 63);
         Check.due("knows(0, 9)", plain.knows(0, 9), 63);
         Check.due("knows(5, 0)", plain.knows(5, 0), 52);
-        Check.due("knows(1, 1) by way of 0", Check.town(ring("003000")).knows(1, 1), 15);
+        Check.due("knows(1, 1) by way of 0", Check.town(Towns.ring("003000")).knows(1, 1), 15);
         Check.due("knows(0, 10)", plain.knows(0, 10), -2);
         Check.due("knows(0, -1)", plain.knows(0, -1), -2);
         Check.due("knows(6, 0)", plain.knows(6, 0), -1);
         Check.due("knows(-1, 10)", plain.knows(-1, 10), -1);
-        ShutterTown deaf = Check.town(ring("011000"));
+        ShutterTown deaf = Check.town(Towns.ring("011000"));
         Check.due("deaf: knows(0, 0)", deaf.knows(0, 0), 47);
         Check.due("deaf: knows(0, 1)", deaf.knows(0, 1), 63);
-        ShutterTown dead = Check.town(ring("330300"));
+        ShutterTown dead = Check.town(Towns.ring("330300"));
         Check.due("dead ones read, and do not pass on", dead.knows(0, 9), 11);
         Check.due("a dead one's own", Check.town("S01231W00003").knows(0, 0), 1);
     }
 
     private static void telling() {
-        ShutterTown x = Check.town(ring("000000"));
+        ShutterTown x = Check.town(Towns.ring("000000"));
         Check.due("toTell(63)", x.toTell(63), 12);
         Check.due("toTell(7)", x.toTell(7), 2);
         Check.due("toTell(15)", x.toTell(15), 3);
@@ -111,7 +105,7 @@ public final class WaysTest {
     }
 
     private static void cutOf(String kinds, int from, int to, int want) {
-        Check.due(kinds + ": cut(" + from + ", " + to + ")", Check.town(ring(kinds)).cut(from, to), want);
+        Check.due(kinds + ": cut(" + from + ", " + to + ")", Check.town(Towns.ring(kinds)).cut(from, to), want);
     }
 
     private static void cutting() {
