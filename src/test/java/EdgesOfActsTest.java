@@ -283,6 +283,11 @@ public final class EdgesOfActsTest {
         all.pass(5, 0);
         Check.due("six are due", all.count(5), 6);
         Check.due("all six", all.hour(), 63);
+        all.undo();
+        for (int window = 0; window < 6; window++) {
+            Check.due("undone: due at " + window, all.window(window, 7), window < 5 ? 1 : 0);
+            Check.due("undone: STATE of " + window, all.window(window, 3), window < 5 ? 0 : 1);
+        }
     }
 
     private static void noneToUndo() {

@@ -20,6 +20,7 @@ public final class EdgesOfChancesTest {
         restsOnOneWindow();
         slamsRefused();
         slamsByTenths();
+        slamsOnLeaves();
         slamsInLeastTerms();
         slamsOfNone();
         seeds();
@@ -73,6 +74,8 @@ public final class EdgesOfChancesTest {
         crossOf(Towns.line("020"), 0, 2, 1);
         crossOf(Towns.line("00000"), 0, 4, 2);
         crossOf(Towns.line("01010"), 0, 4, 1);
+        crossOf("S01231W00000W01000W11000", 1, 2, 1);
+        crossOf("S01231W00001W01000W11000", 1, 2, 0);
     }
 
     private static void crossTheFirstHour() {
@@ -160,6 +163,19 @@ public final class EdgesOfChancesTest {
             slamsOf(x, 0, tenths, above[10 - tenths], below[tenths]);
             slamsOf(x, 2, tenths, 0, 1);
             slamsOf(x, 3, tenths, 0, 1);
+        }
+    }
+
+    /** From WINDOW 0 and from the last one, as the left leaf is shut or open at first. */
+    private static void slamsOnLeaves() {
+        Check.says("each LOOSE one moves by wind by itself");
+        int[] moved = {1, 0, 3, 2};
+        for (int state = 0; state <= 3; state++) {
+            slamsOf(Check.town(Towns.two("0123", 0, 0, state, 2)), state, 3, 7, 10);
+            slamsOf(Check.town(Towns.two("0123", 0, 0, state, 2)), moved[state], 3, 3, 10);
+            ShutterTown last = Check.town(Towns.two("0123", state, 2, 0, 0));
+            Check.due("seen by the last: it stays", last.slams(1, state, 3, true), 7);
+            Check.due("seen by the last: it moves", last.slams(1, moved[state], 3, true), 3);
         }
     }
 

@@ -9,6 +9,7 @@ public final class EdgesOfSlotsTest {
         noSuchSlot();
         noneWereKept();
         asTheyWereKept();
+        allSixAreKept();
         keptWithoutWindows();
         theRowIsEmpty();
         nothingElseIsKept();
@@ -72,6 +73,28 @@ public final class EdgesOfSlotsTest {
         Check.due("and once more", x.again(1), 2);
         Check.due("none is due", x.count(5), 0);
         Check.due("0 is as it was", x.again(0), 0);
+    }
+
+    private static void allSixAreKept() {
+        Check.says("SLOTS 0 to 1 keep STATES, what is to be PASSED ON, THE HOUR");
+        ShutterTown x = Check.town("S01239W00000W10010W20020W01030W11010W21020");
+        for (int hour = 0; hour < 9; hour++) {
+            x.hour();
+        }
+        for (int window = 0; window < 6; window++) {
+            x.pass(window, 5 - window);
+        }
+        Check.due("keep(0)", x.keep(0), 9);
+        Check.due("keep(1)", x.keep(1), 9);
+        x.hour();
+        int[] states = {0, 1, 2, 3, 1, 2};
+        for (int slot = 0; slot <= 1; slot++) {
+            Check.due("again(" + slot + ")", x.again(slot), 9);
+            for (int window = 0; window < 6; window++) {
+                Check.due("STATE of " + window, x.window(window, 3), states[window]);
+                Check.due("due at " + window, x.window(window, 7), states[5 - window]);
+            }
+        }
     }
 
     private static void keptWithoutWindows() {

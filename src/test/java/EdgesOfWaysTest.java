@@ -125,6 +125,9 @@ public final class EdgesOfWaysTest {
             Check.due("all DEAF: knows(0, " + n + ")", Check.town(Towns.line("111111")).knows(0, n), 63);
         }
         Check.due("a DEAD one reads, and does not pass on", Check.town(Towns.line("003000")).knows(0, 9), 7);
+        ShutterTown byTheFirst = Check.town("S01231W00000W01000W11000");
+        Check.due("not by way of WINDOW 0 yet", byTheFirst.knows(1, 0), 3);
+        Check.due("by way of WINDOW 0", byTheFirst.knows(1, 1), 7);
     }
 
     private static void knowsItsOwn() {
@@ -179,6 +182,7 @@ public final class EdgesOfWaysTest {
         Check.due("two of like ones", Check.town(Towns.line("0000")).toTell(15), 5);
         Check.due("two that do not SEE each other's", Check.town(Towns.line("000000")).toTell(63), 18);
         Check.due("none is told", Check.town(Towns.line("000000")).toTell(0), 0);
+        Check.due("one of more bits, not two of fewer", Check.town("S01231W00000W10000W01000").toTell(7), 4);
     }
 
     private static void cutOf(String text, int from, int to, int want) {
@@ -209,6 +213,7 @@ public final class EdgesOfWaysTest {
         cutOf(Towns.ring("000000"), 1, 4, 5);
         cutOf(Towns.ring("300000"), 1, 4, 4);
         cutOf("S01239W00000W10000W01000W11000W21000W31000", 0, 1, 60);
+        cutOf("S01231W01000W11000W10000W00000W21000", 3, 4, 4);
     }
 
     private static void howManyThings() {
