@@ -30,9 +30,6 @@ public final class ShutterTown {
     private static final long SEED_TIMES = 6364136223846793005L;
     private static final long SEED_MORE = 1442695040888963407L;
 
-    /** The least number that n things of two figures each can not be, by n. */
-    private static final long[] BEYOND_THINGS = {1L, 100L, 10000L, 1000000L, 100000000L, 10000000000L};
-
     private final Letters text = new Letters();
     private final Houses houses = new Houses();
     private final Shutters now = new Shutters(houses);
@@ -210,12 +207,12 @@ public final class ShutterTown {
     }
 
     public int judge(int n, long row) {
-        if (n < 1 || n > MOST_THINGS || row < 0 || row >= BEYOND_THINGS[n]) {
+        if (n < 1 || n > MOST_THINGS || row < 0 || withoutLast(row, n) > 0) {
             return OUTSIDE;
         }
         tried.copy(now);
         for (int at = 0; at < n; at++) {
-            int thing = (int) (row / BEYOND_THINGS[n - 1 - at] % 100);
+            int thing = (int) (withoutLast(row, n - 1 - at) % 100);
             if (!happens(thing / 10, thing % 10) || tried.pairsAlike() > 0) {
                 return at;
             }
@@ -409,6 +406,15 @@ public final class ShutterTown {
             return UNKNOWN;
         }
         return one == other ? OUTSIDE : NONE;
+    }
+
+    /** What is in front of the last things of a row, each told by two figures. */
+    private static long withoutLast(long row, int things) {
+        long left = row;
+        for (int thing = 0; thing < things; thing++) {
+            left /= 100;
+        }
+        return left;
     }
 
     private boolean happens(int first, int second) {
